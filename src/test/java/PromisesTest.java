@@ -1,10 +1,5 @@
 /** Each promise by hand; the numbers that are due are worked out in the comments. */
-final class PromisesTest {
-    private static final int FAR = -1000000000;
-    private final Checks checks = new Checks();
-    private String promise;
-    private YamIsland x;
-
+final class PromisesTest extends Trial {
     public static void main(String[] args) {
         PromisesTest test = new PromisesTest();
         test.first();
@@ -67,38 +62,6 @@ final class PromisesTest {
         blind();
         imageAndRestore();
         count();
-    }
-
-    private void begin(String told) {
-        promise = told;
-        x = new YamIsland();
-    }
-
-    private void due(String call, long got, long want) {
-        checks.due(promise + ": " + call, got, want);
-    }
-
-    /** How often each of the refusals -1, -2, -3, -4, -6 has been counted. */
-    private void dueRefusals(int nobody, int other, int state, int below, int room) {
-        due("count(11)", x.count(11), nobody);
-        due("count(12)", x.count(12), other);
-        due("count(13)", x.count(13), state);
-        due("count(14)", x.count(14), below);
-        due("count(15)", x.count(15), 0);
-        due("count(16)", x.count(16), room);
-    }
-
-    /** A way that brings the same in every weather. */
-    private void steady(int... brought) {
-        for (int v : brought) {
-            x.way(v, v, v, v);
-        }
-    }
-
-    private void rules(String... texts) {
-        for (String text : texts) {
-            Checks.rule(x, text);
-        }
     }
 
     private void newObject() {
