@@ -12,6 +12,7 @@ final class RunBoundsTest extends Trial {
 
     private void years() {
         goYears();
+        addedUp();
         allAtOnce();
         sharesOfWays();
         runsInMind();
@@ -21,6 +22,7 @@ final class RunBoundsTest extends Trial {
         wrongOfSeveral();
         alikeFromZero();
         alikeBehindTheLast();
+        alikeAsItBegins();
         alikeNone();
     }
 
@@ -52,7 +54,9 @@ final class RunBoundsTest extends Trial {
         lessSeenOfNone();
         lessSeenRound();
         lessSeenOfAll();
+        lessSeenThenLessNow();
         shownBounds();
+        shownLessNow();
         blindOfSeveral();
         blindOfThoseWhoAreThere();
         blindButItself();
@@ -93,6 +97,23 @@ final class RunBoundsTest extends Trial {
         due("count(3)", x.count(3), 61);
         due("count(6)", x.count(6), 122);
         dueRefusals(0, 0, 3, 4, 3);
+    }
+
+    private void addedUp() {
+        sentence("each garden BRINGS by its WAY and the WEATHER of the YEAR; all that it brought is added up;");
+        x.way(1, 10, 0, 99);
+        x.way(2, 20, 0, 98);
+        rules("s");
+        planters(0, 0, 1);
+        x.sky(4, 0b11_10_01_00);
+        int[] first = {1, 11, 11, 110, 111};
+        int[] second = {2, 22, 22, 120, 122};
+        for (int y = 0; y < first.length; y++) {
+            x.go(1);
+            due("of(0, 4) behind year " + y, x.of(0, 4), first[y]);
+            due("of(1, 4) behind year " + y, x.of(1, 4), second[y]);
+            due("count(6) behind year " + y, x.count(6), first[y] + second[y]);
+        }
     }
 
     private void allAtOnce() {
@@ -310,6 +331,22 @@ final class RunBoundsTest extends Trial {
         due("alike(58)", x.alike(58), -9);
         due("alike(59)", x.alike(59), 59);
         due("alike(60)", x.alike(60), 59);
+    }
+
+    private void alikeAsItBegins() {
+        sentence("as which begins all plant one WAY; -9 none.");
+        steady(1, 2, 3);
+        rules("s", "t1");
+        x.person(2, 0);
+        x.person(0, 1);
+        // ways 2 0, 2 1, 2 2, 2 0, ..: alike as year 2 begins, no more as it has gone by
+        due("alike(60)", x.alike(60), 2);
+        due("alike(2)", x.alike(2), 2);
+        due("alike(1)", x.alike(1), -9);
+        x.go(2);
+        due("at once", x.alike(1), 0);
+        x.go(1);
+        due("round again", x.alike(60), 2);
     }
 
     private void alikeNone() {
@@ -688,6 +725,35 @@ final class RunBoundsTest extends Trial {
         x.sees(0, 0);
         x.sees(1, 0);
         due("more than now", x.lessSeen(7, 2), 8);
+    }
+
+    private void lessSeenThenLessNow() {
+        sentence("FARES then less FARES now.");
+        steady(0, 99);
+        rules("b");
+        planters(0, 0, 0, 0, 0, 0, 0, 0, 1);
+        due("the least", x.lessSeen(0, 60), -7 * 59 * 99);
+        due("nothing in one year", x.lessSeen(0, 1), 0);
+        for (int p = 0; p < 8; p++) {
+            x.sees(p, 0);
+        }
+        due("the greatest", x.lessSeen(7, 60), 7 * 59 * 99);
+        due("as now", x.lessSeen(0, 60), 0);
+    }
+
+    private void shownLessNow() {
+        sentence("SHOWN: FARES with SHOW s less FARES now.");
+        steady(0, 99);
+        rules("b");
+        planters(0, 0, 0, 0, 0, 0, 0, 0, 1);
+        for (int p = 0; p < 8; p++) {
+            x.sees(p, 0);
+        }
+        due("the greatest", x.shown(1, 60), 7 * 59 * 99);
+        x.show(1);
+        due("the least", x.shown(0, 60), -7 * 59 * 99);
+        due("as now", x.shown(1, 60), 0);
+        due("nothing in one year", x.shown(0, 1), 0);
     }
 
     private void shownBounds() {

@@ -29,6 +29,7 @@ final class TermsBoundsTest extends Trial {
     }
 
     private void skies() {
+        skyRow();
         skyLengths();
         skyRoundAndRound();
         skyBits();
@@ -230,6 +231,18 @@ final class TermsBoundsTest extends Trial {
         dueRefusals(2, 0, 2, 0, 0);
         x.way(0, 0, 0, 0);
         due("one way", x.bestWay(3), 0);
+    }
+
+    private void skyRow() {
+        sentence("THE SKY: a row of 1 to 24 WEATHERS");
+        for (int n = 1; n <= 24; n++) {
+            due("sky(" + n + ", ..)", x.sky(n, 3L << 2 * (n - 1)), Math.max(1, n - 1));
+            due("the last of " + n, x.weather(n - 1), 3);
+            due("the first of " + n + ", gone round", x.weather(n), n == 1 ? 3 : 0);
+        }
+        due("sky(25, ..)", x.sky(25, 0), -6);
+        due("sky(0, ..)", x.sky(0, 0), -4);
+        due("count(4)", x.count(4), 24);
     }
 
     private void skyLengths() {

@@ -42,6 +42,7 @@ final class TextBoundsTest extends Trial {
         nearBelow();
         nearIfNone();
         tryYears();
+        tryElse();
         tryBehindTheLast();
         mixedLess();
         nextOfNobody();
@@ -283,6 +284,24 @@ final class TextBoundsTest extends Trial {
         waysByYears(0, 0, 1, 1);
         x.lives(0, 2);
         waysByYears(0, 1, 2, 3, 0, 1);
+    }
+
+    private void tryElse() {
+        sentence("else as it plants now.");
+        steady(1, 2, 3);
+        rules("t99", "t2");
+        x.person(0, 0);
+        x.person(0, 1);
+        x.go(1);
+        due("t99 in year 1", x.next(0), 1);
+        due("t2 in year 1", x.next(1), 1);
+        x.plants(0, 2);
+        x.plants(1, 0);
+        due("what it plants now", x.next(0), 2);
+        due("what it plants now", x.next(1), 0);
+        x.go(1);
+        due("t99 in year 2", x.next(0), 2);
+        due("t2 in year 2", x.next(1), 1);
     }
 
     private void tryBehindTheLast() {
