@@ -19,6 +19,13 @@ final class FaceTest {
         "ifAll int int", "bestRule int", "part int int int int", "edge int int int int", "lessSeen int int",
         "shown int int", "blind int", "image", "restore", "count int",
     };
+    /** All that the class asks of the library; LANGUAGE.md has more. */
+    private static final Pattern LIBRARY = Pattern.compile(
+            "(Math\\.(min|max)|Arrays\\.fill|System\\.arraycopy)\\(");
+    private static final Pattern LIBRARY_CALL = Pattern.compile(
+            "\\b(Math|Arrays|System|Integer|Long|String|StringBuilder|List|ArrayList)\\.\\w+\\(");
+    private static final int LONGEST_METHOD = 60;
+    private static final int MOST_PARAMETERS = 7;
     private static final String[] LEFT_OUT = {
         "\\bthrow\\b", "\\bthrows\\b", "\\btry\\b", "\\bcatch\\b", "\\bsynchronized\\b", "\\bassert\\b",
         "->", "::", "\\w+Exact\\b", "\\bpackage\\b", "\\bMath\\.random\\b", "\\bSystem\\.(?!arraycopy\\b)", "\\bstatic\\s*\\{",
@@ -29,7 +36,11 @@ final class FaceTest {
         FaceTest test = new FaceTest();
         test.methods();
         test.otherMembers();
-        test.source();
+        String source = Files.readString(Path.of("src/main/java/YamIsland.java"));
+        source = source.replaceAll("(?s)/\\*.*?\\*/", "").replaceAll("//[^\n]*", "");
+        test.words(source);
+        test.libraryCalls(source);
+        test.methodSizes(source);
         test.checks.end();
     }
 
@@ -56,9 +67,14 @@ final class FaceTest {
             checks.dueTrue(method + " is no static one", !Modifier.isStatic(method.getModifiers()));
             checks.dueTrue(method + " answers int", method.getReturnType() == int.class);
         }
+        for (Class<?> inside : YamIsland.class.getDeclaredClasses()) {
+            for (Method method : inside.getDeclaredMethods()) {
+                closedNames.add(method.getName());
+            }
+        }
         checks.dueTrue("the methods are the face: " + open, open.equals(new TreeSet<>(Arrays.asList(FACE))));
         closedNames.retainAll(openNames);
-        checks.dueTrue("no private method bears a public name: " + closedNames, closedNames.isEmpty());
+        checks.dueTrue("no other method bears a public name: " + closedNames, closedNames.isEmpty());
     }
 
     private void otherMembers() {
@@ -79,9 +95,7 @@ final class FaceTest {
         }
     }
 
-    private void source() throws Exception {
-        String source = Files.readString(Path.of("src/main/java/YamIsland.java"));
-        source = source.replaceAll("(?s)/\\*.*?\\*/", "").replaceAll("//[^\n]*", "");
+    private void words(String source) {
         for (String word : LEFT_OUT) {
             Matcher found = Pattern.compile(word).matcher(source);
             checks.dueTrue("the class has no " + word, !found.find());
@@ -89,6 +103,22 @@ final class FaceTest {
         Matcher imports = Pattern.compile("import\\s+([^;]+);").matcher(source);
         while (imports.find()) {
             checks.dueTrue("import of " + imports.group(1), imports.group(1).equals("java.util.Arrays"));
+        }
+    }
+
+    private void libraryCalls(String source) {
+        Matcher calls = LIBRARY_CALL.matcher(source);
+        while (calls.find()) {
+            checks.dueTrue("call of " + calls.group(), LIBRARY.matcher(calls.group()).matches());
+        }
+    }
+
+    private void methodSizes(String source) {
+        Matcher methods = Pattern.compile("(?m)^( +)[\\w\\[\\] ]+\\(([^)]*)\\) \\{\n(?s:.*?)^\\1\\}$").matcher(source);
+        while (methods.find()) {
+            String head = methods.group().substring(0, methods.group().indexOf('{')).trim();
+            checks.dueTrue(head + " is short", methods.group().split("\n").length <= LONGEST_METHOD);
+            checks.dueTrue(head + " takes few", methods.group(2).split(",").length <= MOST_PARAMETERS);
         }
     }
 }
